@@ -364,7 +364,7 @@ public final class FoldedRealm {
         int words = 0;
         for (int seat = 0; seat < realm.writers; seat++) {
             if ((seats >> seat & 1) == 1) {
-                odds.weighFold(realm, page.standing, realm.writerAt(seat, fold), fold, Odds.BEGINNING);
+                odds.weighBehind(realm, page.standing, realm.writerAt(seat, fold), fold, Odds.BEGINNING, 0);
                 int likeliest = odds.likeliestAtBeginning(realm, fold);
                 if (likeliest != NONE) {
                     words |= 1 << likeliest;
@@ -576,43 +576,46 @@ public final class FoldedRealm {
                 next++;
             }
             place = next;
-            if (next >= length) {
-                sort = Sort.END;
-            } else if (isLetter(next)) {
-                takeWord();
+            if (isLetter(next)) {
+                takeLetters();
             } else if (isDigit(next)) {
-                takeNumber();
-            } else {
+                takeDigits();
+            } else if (next < length) {
                 next++;
-                sort = sortOfText(Sort.NOTHING);
             }
+            sort = sortTaken();
         }
 
-        private void takeWord() {
+        private void takeLetters() {
             name = 0;
             while (next < length && isLetter(next)) {
                 name = name * 32 + (signs[next] - 'a' + 1);
                 next++;
             }
-            sort = next - place > WORD_LONG ? Sort.NOTHING : sortOfText(Sort.NAME);
         }
 
-        private void takeNumber() {
+        private void takeDigits() {
             number = 0;
             while (next < length && isDigit(next)) {
                 number = number * 10 + (signs[next] - '0');
                 next++;
             }
-            sort = next - place > NUMBER_LONG ? Sort.NOTHING : Sort.NUMBER;
         }
 
-        private Sort sortOfText(Sort other) {
+        private Sort sortTaken() {
+            int taken = next - place;
+            if (taken == 0) {
+                return Sort.END;
+            }
+            if (isDigit(place)) {
+                return taken > NUMBER_LONG ? Sort.NOTHING : Sort.NUMBER;
+            }
             for (int i = 0; i < SORTS.length; i++) {
                 if (hasText(SORTS[i].text)) {
                     return SORTS[i];
                 }
             }
-            return other;
+            return isLetter(place) && taken <= WORD_LONG ? Sort.NAME : Sort.NOTHING;
         }
 
         boolean hasText(String text) {
@@ -696,10 +699,6 @@ public final class FoldedRealm {
 
         /** Its value by the facts that were set, held to 0 .. 99. */
         int held() {
-            return Math.max(0, Math.min(99, value()));
-        }
-
-        private int value() {
             int top = 0;
             for (int at = from; at < to && at < steps.length; at++) {
                 int step = steps[at];
@@ -717,7 +716,7 @@ public final class FoldedRealm {
                     stack[top - 1] = joined(step, stack[top - 1], stack[top]);
                 }
             }
-            return stack[0];
+            return Math.max(0, Math.min(99, stack[0]));
         }
 
         private int factAt(int fact) {
@@ -903,24 +902,22 @@ public final class FoldedRealm {
             if (!hasWord(word) || remaining <= 0) {
                 return 0;
             }
-            int value = plainly(word, writer);
+            int writerKind = kindOf(writer);
+            int much = fondness(writer, word);
+            int value = weight[word] + much;
             if (writes.isTold()) {
                 writes.setFact(0, weight[word]);
-                writes.setFact(1, fondness(writer, word));
+                writes.setFact(1, much);
                 writes.setFact(2, good[word]);
                 writes.setFact(3, remaining);
                 writes.setFact(4, ahead);
                 value = writes.held();
+            } else if (writerKind == WILD) {
+                value = 1;
+            } else if (writerKind == WISE && good[word] > SMALL_MOST) {
+                value = 0;
             }
-            return kindOf(writer) == SLY ? Math.max(1, value) : value;
-        }
-
-        private int plainly(int word, int writer) {
-            int writerKind = kindOf(writer);
-            if (!hasWord(word) || (writerKind == WISE && good[word] > SMALL_MOST)) {
-                return 0;
-            }
-            return writerKind == WILD ? 1 : weight[word] + fondness(writer, word);
+            return writerKind == SLY ? Math.max(1, value) : value;
         }
 
         /** The good that a whole does whose words stand in the row from a place on. */
@@ -960,30 +957,35 @@ public final class FoldedRealm {
             tokens.begin();
             boolean fine = true;
             for (int i = 0; i < TAPE_MOST && fine && !tokens.is(Sort.END); i++) {
-                fine = readRealmLine(into) && tokens.skip(Sort.STOP);
+                switch (tokens.sort) {
+                    case WRITER:
+                        fine = readWriter(into);
+                        break;
+                    case WORD:
+                        fine = readWord(into);
+                        break;
+                    case LIKES:
+                        fine = readLikes(into);
+                        break;
+                    case CLASH:
+                        fine = readClash(into);
+                        break;
+                    case FOLDS:
+                        fine = readFolds(into);
+                        break;
+                    case WRITES:
+                        fine = readFormula(into, into.writes);
+                        break;
+                    case DOES:
+                        fine = readFormula(into, into.does);
+                        break;
+                    default:
+                        fine = tokens.fail(1);
+                        break;
+                }
+                fine = fine && tokens.skip(Sort.STOP);
             }
             return tokens.fault;
-        }
-
-        private boolean readRealmLine(Realm into) {
-            switch (tokens.sort) {
-                case WRITER:
-                    return readWriter(into);
-                case WORD:
-                    return readWord(into);
-                case LIKES:
-                    return readLikes(into);
-                case CLASH:
-                    return readClash(into);
-                case FOLDS:
-                    return readFolds(into);
-                case WRITES:
-                    return readFormula(into, into.writes);
-                case DOES:
-                    return readFormula(into, into.does);
-                default:
-                    return tokens.fail(1);
-            }
         }
 
         private boolean readWriter(Realm into) {
@@ -1044,7 +1046,11 @@ public final class FoldedRealm {
         }
 
         private boolean readEntry(Sort title, int most, int[] row, int at) {
-            if (!tokens.skip(title) || !isNumber(0, most)) {
+            if (!tokens.is(title)) {
+                return tokens.fail(1);
+            }
+            tokens.step();
+            if (!isNumber(0, most)) {
                 return false;
             }
             if (at >= 0 && at < row.length) {
@@ -1251,7 +1257,18 @@ public final class FoldedRealm {
                 into.add(Formula.NOT);
                 return fine;
             }
-            return first != Sort.OPEN || (readE(into, depth + 1) && tokens.skip(Sort.CLOSE));
+            return first != Sort.OPEN || readToClose(into, depth + 1);
+        }
+
+        private boolean readToClose(Formula into, int depth) {
+            if (!readE(into, depth)) {
+                return false;
+            }
+            if (!tokens.is(Sort.CLOSE)) {
+                return tokens.fail(1);
+            }
+            tokens.step();
+            return true;
         }
 
         private int factTold(boolean ofWrites) {
@@ -1553,12 +1570,8 @@ public final class FoldedRealm {
             return ahead >= BEGINNING && ahead < WORDS_MOST ? total[ahead + 1] : 0;
         }
 
-        /** Weighs the words of a fold behind the word ahead (at the beginning: of no good). */
-        void weighFold(Realm realm, Standing standing, int writer, int fold, int ahead) {
-            weighBehind(realm, standing, writer, fold, ahead, realm.goodOfWord(ahead));
-        }
-
-        private void weighBehind(Realm realm, Standing standing, int writer, int fold, int ahead, int goodAhead) {
+        /** Weighs the words of a fold behind the word ahead, or at the beginning behind that much good. */
+        void weighBehind(Realm realm, Standing standing, int writer, int fold, int ahead, int goodAhead) {
             if (ahead < BEGINNING || ahead >= WORDS_MOST) {
                 return;
             }
@@ -1589,7 +1602,7 @@ public final class FoldedRealm {
                 int writer = realm.writerAt(seat, fold);
                 for (int ahead = 0; ahead < WORDS_MOST; ahead++) {
                     if (realm.foldOf(ahead) == fold - 1) {
-                        weighFold(realm, standing, writer, fold, ahead);
+                        weighBehind(realm, standing, writer, fold, ahead, realm.goodOfWord(ahead));
                     }
                 }
             }

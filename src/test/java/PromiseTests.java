@@ -581,6 +581,9 @@ public final class PromiseTests {
         due("none left", x.judged(0), 5);
         Checks.tellSundays(x, "write a;pass;burn 0;");
         due("pass can't be", x.judged(0), 1);
+        x = Checks.told("folds 2;" + word("a", 1, 1, 1, 1) + word("b", 0, 1, 1, 1) + "clash a b;");
+        Checks.tellSundays(x, "write b;write a;");
+        due("the word 0 is the last", x.judged(1), 1);
         x = Checks.told("folds 2;writer p plain;" + word("a", 0, 1, 1, 1) + word("b", 0, 1, 0, 9) + word("e", 0, 1, 0, 9) + word("c", 1, 1, 0, 9)
             + word("d", 1, 1, 0, 9) + word("f", 1, 1, 0, 9) + "clash a f;");
         StringBuilder text = new StringBuilder("write a;write c;");
@@ -643,6 +646,87 @@ public final class PromiseTests {
         writeAll(x, 0, 2);
         due("does, spiked", x.worst(), 1);
         due("mean, spiked", x.mean(), (5 + 6 + 1 + 1) * 250);
+    }
+
+    private static void promise17MostRows() {
+        StringBuilder all = new StringBuilder("folds 4;");
+        for (int i = 0; i < 12; i++) {
+            all.append(word("w" + (char) ('a' + i), i % 4, 1, 1, 1));
+        }
+        FoldedRealm x = Checks.told(all.toString());
+        due("81 rows of 12345 millionths", x.mean(), 81 * 4 * 12345 / 1000);
+        due("the last one of them", x.comes(0b111100000000), 12345);
+        due("the first is best", x.best(3), 3);
+        due("three wholes", x.spent(), 3);
+    }
+
+    private static void promise3LongestText() {
+        StringBuilder text = new StringBuilder(word("a", 0, 3, 4, 2) + "writes 7");
+        int want = 7;
+        while (text.length() < 998) {
+            text.append(want == 7 ? "+2" : "-2");
+            want = want == 7 ? 9 : 7;
+        }
+        text.append(text.length() == 998 ? " ;" : ";");
+        due("its length", text.length(), 1000);
+        FoldedRealm x = Checks.told(text.toString());
+        due("a tape of 1000", x.word(0, 4), want);
+        StringBuilder nots = new StringBuilder("does 1");
+        while (nots.length() < 990) {
+            nots.append(" and not 0");
+        }
+        fault(nots + ";", 0, 0);
+    }
+
+    /** No argument, in no state, makes the machine throw. */
+    private static void strangeArguments() {
+        int[] strange = {Integer.MIN_VALUE, Integer.MIN_VALUE + 1, -65536, -17, -3, -2, -1, 0, 1, 2, 3, 4, 5, 6, 9, 10, 11, 12, 13, 16, 31, 32, 100,
+            65535, Integer.MAX_VALUE - 1, Integer.MAX_VALUE};
+        for (int state = 0; state < 4; state++) {
+            FoldedRealm x = state == 0 ? new FoldedRealm() : Checks.told(SMALL);
+            if (state > 1) {
+                writeAll(x, 0, 2, 1);
+            }
+            if (state > 2) {
+                writeAll(x, 3);
+                Checks.tellSundays(x, "write a;burn 9;pass;");
+            }
+            for (int a : strange) {
+                for (int b : strange) {
+                    for (int c : new int[] {Integer.MIN_VALUE, -1, 0, 1, 2, 10, Integer.MAX_VALUE}) {
+                        x.meet(a, b, c);
+                        x.generations(a, b, c);
+                        restsOf(x, a, b, c);
+                    }
+                    x.writer(a, b);
+                    x.word(a, b);
+                    x.spike(a, b);
+                    x.aim(a, b);
+                }
+                x.strip(a);
+                x.judged(a);
+                x.comes(a);
+                x.best(a);
+                x.count(a);
+                x.mark(a, a > 9);
+                x.read(a);
+                x.write(a);
+                x.burn(a);
+                x.undo();
+                due("it lives", x.count(14), -1);
+            }
+        }
+    }
+
+    private static void restsOf(FoldedRealm x, int a, int b, int c) {
+        int threw = 0;
+        try {
+            x.rests(a, b, c, 0);
+        } catch (NoSuchElementException e) {
+            threw = 1;
+        }
+        boolean others = a < 0 || a > 9 || b < 0 || b > 9 || c < 0 || c > 9;
+        due("rests of others throws", others && threw == 0, false);
     }
 
     private static void promise15Unevenly() {
@@ -868,6 +952,7 @@ public final class PromiseTests {
         due("seed -1", x.generations(-1, 4, 0), -1);
         due("seed 10000", x.generations(10000, 4, 0), -1);
         due("seed 9999", x.generations(9999, 4, 0), 2);
+        due("seed 0", x.generations(0, 4, 0), 2);
         due("words 0", x.generations(7, 0, 0), -1);
         due("words 100", x.generations(7, 100, 0), -1);
         due("words 99: two, then one in three", x.generations(7, 99, 0), 2 + 31);
@@ -995,6 +1080,9 @@ public final class PromiseTests {
         promise13Judged();
         promises14To17();
         promise15Unevenly();
+        promise17MostRows();
+        promise3LongestText();
+        strangeArguments();
         promise18Aim();
         promise19Meet();
         promises20And21();
