@@ -341,6 +341,74 @@ public final class AskingBoundaryTests {
         due("nobody", x.sure(), -1);
     }
 
+    // "by which some of 1,000,000 comes": one is some.
+    private static void oneIsSome() {
+        String words = word("a", 0, 0, 0, 9) + word("b", 0, 1, 0, 9) + word("c", 1, 0, 0, 9) + word("d", 1, 1, 0, 9) + word("e", 2, 0, 0, 9) + word("f", 2, 1, 0, 9);
+        FoldedRealm x = Checks.told("folds 4;writer p plain;writes heavy*98+1;" + words + word("g", 3, 0, 0, 9));
+        x.read(0);
+        x.read(2);
+        x.read(4);
+        due("1 comes to g", x.began(), 1);
+        due("it is sure", x.sure(), 0);
+        x = Checks.told("folds 3;writer p plain;writes heavy*98+1;" + words);
+        x.read(0);
+        x.read(2);
+        x.read(4);
+        due("1 comes to e", x.began(), 1);
+        due("it is sure", x.sure(), 0);
+    }
+
+    // The last WORD may stand in the first fold, the first one in the last.
+    private static void anyOrderOfWords() {
+        StringBuilder text = new StringBuilder("folds 4;writer p plain;writes heavy+ahead;");
+        for (int w = 0; w < 12; w++) {
+            text.append(word("w" + (char) ('a' + w), 3 - w / 3, 1, w % 3 == 2 ? 1 : 0, 9));
+        }
+        FoldedRealm x = Checks.told(text.toString());
+        int[] row = {9, 6, 3, 0};
+        for (int fold = 0; fold < 4; fold++) {
+            due("best", x.best(fold), row[fold]);
+        }
+        due("the last ones", x.comes(bits(11, 8, 5, 2)), 12345);
+        due("aim at the first", x.aim(0, 0), 9);
+        due("it comes", x.aim(0, 1) > 333000, true);
+        // 333333; then 111111 to each of three; then 37037 to each by each, 111111 together; then so once more.
+        due("the first with the last", x.meet(0, 11, 1), 111111);
+        due("began", x.began(), 1);
+        x.read(0);
+        due("the first was read", x.began(), 1);
+        due("spent", x.spent(), 27);
+        writeAll(x, 11, 8, 5, 0);
+        due("written", x.spike(0, 3), 0);
+    }
+
+    // "(All of the whole that is being written, as it stands, by what is left now.)": ahead is the WORD that is written.
+    private static void behindWhatIsWritten() {
+        FoldedRealm x = Checks.told("folds 3;writes heavy+ahead*small;" + word("a", 0, 1, 0, 9) + word("b", 0, 1, 3, 9) + word("c", 1, 1, 0, 9) + word("d", 1, 1, 2, 9)
+            + word("e", 2, 1, 0, 9) + word("f", 2, 1, 4, 1));
+        writeAll(x, 1);
+        // behind b: c 1, d 7; behind c: e 1, f 1; behind d: e 1, f 9.
+        due("b c e", x.comes(bits(2, 4)), 62500);
+        due("b d f", x.comes(bits(3, 5)), 787500);
+        due("best", x.best(-1), 787500);
+        due("best", x.best(1), 3);
+        due("mean", x.mean(), (3L * 62500 + 7L * 62500 + 5L * 87500 + 9L * 787500) / 1000);
+        due("worst", x.worst(), 3);
+        due("aim", x.aim(5, 0), 3);
+        due("aim", x.aim(5, 1), 900000);
+        writeAll(x, 3);
+        due("b d e", x.comes(bits(4)), 100000);
+        due("best", x.best(2), 5);
+        due("worst", x.worst(), 5);
+        due("mean", x.mean(), (5L * 100000 + 9L * 900000) / 1000);
+        writeAll(x, 5, 0);
+        // none of f is left; behind a: c 1, d 1.
+        due("a c e", x.comes(bits(2, 4)), 500000);
+        due("a c f", x.comes(bits(2, 5)), 0);
+        due("worst", x.worst(), 0);
+        due("as many as there are of e", x.spent(), 9);
+    }
+
     /** The wholes of two folds: fold 0 has a, b, c; fold 1 has d, e, f (words 0 to 5). */
     private static FoldedRealm wholes(String clashes, int... pairs) {
         FoldedRealm x = Checks.told("folds 2;" + word("a", 0, 1, 1, 9) + word("b", 0, 1, 1, 9) + word("c", 0, 1, 1, 9) + word("d", 1, 1, 1, 9) + word("e", 1, 1, 1, 9)
@@ -522,6 +590,9 @@ public final class AskingBoundaryTests {
         x.read(0);
         due("a: SEATS 0, 1", x.began(), 0b011);
         due("by these c alone", x.ask(), -1);
+        x = Checks.told("folds 2;writes fond+1;writer p plain;writer q plain;" + word("a", 0, 1, 5, 9) + word("b", 1, 1, 5, 9) + word("c", 2, 1, 5, 9)
+            + word("d", 2, 1, 5, 9) + word("e", 3, 1, 5, 9) + word("f", 3, 1, 5, 9) + "likes p d 1;likes q f 1;");
+        due("no fold beyond", x.ask(), -1);
     }
 
     // "SPENT: how many wholes (the one that is being written first), one behind another, can be, each by its BEST."
@@ -701,6 +772,9 @@ public final class AskingBoundaryTests {
         meetOneToNine();
         meetBySeats();
         whatIsCutIsLost();
+        oneIsSome();
+        anyOrderOfWords();
+        behindWhatIsWritten();
         clashesAndFire();
         allTenClash();
         beganBySeats();

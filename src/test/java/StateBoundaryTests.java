@@ -280,6 +280,27 @@ public final class StateBoundaryTests {
         }
     }
 
+    // "The WORD in a fold of the whole that is being written; NONE: others, none yet."
+    private static void onTheStrip() {
+        FoldedRealm x = Checks.told("folds 4;" + Checks.word("a", 0, 1, 1, 9) + Checks.word("b", 1, 1, 1, 9) + Checks.word("c", 2, 1, 1, 9) + Checks.word("d", 3, 1, 1, 9)
+            + Checks.word("e", 3, 1, 1, 9));
+        for (int whole = 0; whole < 2; whole++) {
+            for (int fold = 0; fold < 4; fold++) {
+                for (int at = -1; at <= 4; at++) {
+                    due(fold + " written, strip " + at, x.strip(at), at >= 0 && at < fold ? at : -1);
+                }
+                due("spike of the one that is being written", x.spike(whole, 0), -1);
+                writeAll(x, fold == 3 ? 3 + whole : fold);
+            }
+        }
+        due("the first", x.spike(0, 3), 3);
+        due("the second", x.spike(1, 3), 4);
+        due("no third", x.spike(2, 3), -1);
+        for (int at = -1; at <= 4; at++) {
+            due("strip of nothing " + at, x.strip(at), -1);
+        }
+    }
+
     // "Of the fold that is next the WRITER is he whose number is SEAT and the fold's number together, modulo how many .."
     private static void whoseTurn() {
         for (int n = 0; n <= 5; n++) {
@@ -365,6 +386,9 @@ public final class StateBoundaryTests {
         due("most is the last one's", x.count(7), 20);
         writeAll(x, 4, 1, 2);
         due("most is the first one's", x.count(7), 33);
+        x = Checks.told("folds 2;" + Checks.word("a", 0, 1, 0, 9) + Checks.word("b", 1, 1, 0, 9));
+        writeAll(x, 0, 1);
+        due("a sum of 0", x.count(7), 0);
     }
 
     private static int goodBy(String does, String words) {
@@ -642,6 +666,8 @@ public final class StateBoundaryTests {
         judge(y, "write a;write c;write b;write c;", -1, 3, 4);
         judge(y, "write a;write c;write b;", -1, -1, 2);
         judge(y, "write a;write c;write a;write c;", -1, -1, 4);
+        y = Checks.told("folds 2;" + Checks.word("a", 1, 1, 1, 9) + Checks.word("b", 0, 1, 1, 9) + "clash a b;");
+        judge(y, "write b;write a;", -1, 1, 2);
     }
 
     // "READ: .. 8 at most"; "false: others, of a fold beyond, 8 are READ"
@@ -698,6 +724,25 @@ public final class StateBoundaryTests {
         due("laid anew", x.mark(0, true), true);
         due("the new one", x.strip(0), 0);
         due("the new one", x.count(11), 3);
+    }
+
+    // ".. what is READ": which WORDS, not only how many.
+    private static void marksHoldWhatIsRead() {
+        FoldedRealm x = Checks.told("folds 2;writes fond;writer p plain;writer q plain;" + Checks.word("a", 0, 1, 1, 9) + Checks.word("b", 0, 1, 1, 9)
+            + Checks.word("c", 1, 1, 1, 9) + "likes p a 1;likes q b 1;likes p c 1;likes q c 1;");
+        x.mark(0, false);
+        x.read(0);
+        x.mark(1, false);
+        x.mark(0, true);
+        due("nothing is READ", x.began(), 0b11);
+        x.read(1);
+        due("b", x.began(), 0b10);
+        x.mark(1, true);
+        due("a", x.began(), 0b01);
+        x.read(1);
+        due("a b", x.began(), 0);
+        x.mark(1, true);
+        due("a", x.began(), 0b01);
     }
 
     // What is done behind a MARK doesn't reach it, and what is undone ahead of going back doesn't either.
@@ -759,6 +804,7 @@ public final class StateBoundaryTests {
         ofAWriter();
         ofAWord();
         foldsBeyond();
+        onTheStrip();
         whoseTurn();
         likelyOfTheSly();
         withoutWrites();
@@ -775,6 +821,7 @@ public final class StateBoundaryTests {
         judgedClashes();
         eightRead();
         fourMarks();
+        marksHoldWhatIsRead();
         marksHold();
         counts();
         checks.end();

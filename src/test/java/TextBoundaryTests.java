@@ -776,6 +776,56 @@ public final class TextBoundaryTests {
         due("nothing can be undone", x.undo() ? 1 : 0, 0);
     }
 
+    // Nothing of a REALM told ahead, nor of one with a FAULT, is in the one that is told now.
+    private static void nothingOfThoseAhead() {
+        String rich = "folds 4;writer p wise;writer q wild;writer r sly;" + words(12) + "likes p wa 3;likes q wb 4;likes r wl 5;clash wa wb;clash wc wl;"
+            + "writes heavy+not fond*9-1;does 9-not not most+1;";
+        String[] tellings = {"folds 2;writer q plain;" + Checks.word("a", 0, 3, 4, 5) + Checks.word("b", 1, 2, 3, 4), "writes 5;does 7;writer x wise;" + words(6),
+            "", "writer p plain;" + words(3) + "likes p wa 1;clash wa wb;clash wb wc;", rich};
+        String[] faults = {rich + "?", rich + "folds 4;", rich + "writes 1;", rich + "does"};
+        for (String text : tellings) {
+            FoldedRealm x = new FoldedRealm();
+            for (int i = 0; i < 2; i++) {
+                Checks.feed(x, rich);
+                due("a REALM", x.realm(), 0);
+                x.read(0);
+                x.read(1);
+            }
+            Checks.feed(x, faults[text.length() % 4]);
+            due("a FAULT", x.realm() > 0 ? 1 : 0, 1);
+            Checks.feed(x, text);
+            due("another REALM " + text, x.realm(), 0);
+            checks.alike("nothing of those ahead in " + text, x, Checks.told(text));
+        }
+        FoldedRealm x = new FoldedRealm();
+        for (int i = 0; i < 2; i++) {
+            Checks.feed(x, TWO);
+            x.realm();
+        }
+        String one = Checks.word("b", 0, 1, 1, 1);
+        Checks.feed(x, one + "clash b a;");
+        due("a WORD told ahead", x.realm(), 2 + 16 * (one.length() + 8));
+        Checks.feed(x, Checks.word("a", 0, 1, 1, 1) + "clash a b;");
+        due("a WORD told ahead", x.realm(), 2 + 16 * (one.length() + 8));
+        Checks.feed(x, "likes p a 1;");
+        due("a WRITER told ahead", x.realm(), 2 + 16 * 6);
+        Checks.feed(x, "word");
+        due("a FAULT", x.realm(), 1 + 16 * 4);
+        due("and all stays", Checks.tellSundays(x, "write a;write b;"), 0);
+    }
+
+    // "no two (WRITERS, WORDS) are alike": these are all unlike.
+    private static void unlikeNames() {
+        for (char c = 'a'; c <= 'z'; c++) {
+            StringBuilder text = new StringBuilder();
+            for (int length = 1; length <= 8; length++) {
+                text.append(Checks.word(("" + c).repeat(length), 0, 1, 1, 1));
+            }
+            char other = c == 'a' ? 'b' : 'a';
+            fine(text + "writer " + other + c + " plain;writer " + c + other + " plain;writer " + other + " plain;");
+        }
+    }
+
     // "SUNDAYS are the SUNDAYS": the ones ahead are gone, nothing else is changed.
     private static void sundaysAreTheSundays() {
         FoldedRealm x = lived("pass;");
@@ -835,6 +885,8 @@ public final class TextBoundaryTests {
         theFirstOneTheLeast();
         allStays();
         aRealmBegins();
+        nothingOfThoseAhead();
+        unlikeNames();
         sundaysAreTheSundays();
         atFirst();
         checks.end();
