@@ -628,9 +628,9 @@ public final class AskingBoundaryTests {
 
     // "RESTS: by which neither would get more by the other": all prizes 0 to 9, all whats.
     private static void allRests() {
-        FoldedRealm x = new FoldedRealm();
         for (int alone = 0; alone <= 9; alone++) {
             for (int both = 0; both <= 9; both++) {
+                FoldedRealm x = new FoldedRealm();
                 for (int none = 0; none <= 9; none++) {
                     int[][] first = {{none, 0}, {alone, both}};
                     List<Integer> rests = new ArrayList<>();
@@ -650,6 +650,7 @@ public final class AskingBoundaryTests {
                 }
             }
         }
+        FoldedRealm x = new FoldedRealm();
         for (int no : new int[] {-1, 10}) {
             for (int what = -1; what < 2; what++) {
                 due("alone " + no, Checks.rests(x, no, 3, 4, what), -99);
@@ -716,8 +717,9 @@ public final class AskingBoundaryTests {
 
     // "else the last whole on the SPIKE is BURNT, if there is one": no DRAW is made then.
     private static void burntByGenerations() {
-        FoldedRealm x = Checks.told("folds 2;writes 1;does most;" + word("a", 0, 1, 0, 1) + word("c", 1, 1, 1, 9) + word("d", 1, 1, 10, 9));
+        FoldedRealm x;
         for (int seed = 0; seed < 20; seed++) {
+            x = Checks.told("folds 2;writes 1;does most;" + word("a", 0, 1, 0, 1) + word("c", 1, 1, 1, 9) + word("d", 1, 1, 10, 9));
             int[] drawn = draws(seed, 80, 2);
             int good = 0;
             int wholes = 0;
