@@ -382,6 +382,20 @@ public final class AskingBoundaryTests {
         due("written", x.spike(0, 3), 0);
     }
 
+    // What was weighed for a REALM told ahead, by the same numbers, is none of this one's.
+    private static void nothingWeighedAhead() {
+        FoldedRealm x = Checks.told("folds 2;writer p plain;" + word("a", 0, 1, 1, 9) + word("b", 0, 1, 1, 9) + word("c", 1, 5, 1, 9) + word("d", 1, 5, 1, 9));
+        due("weighed", x.meet(0, 3, 1), 250000);
+        String now = "folds 3;writer p plain;" + word("a", 0, 1, 1, 9) + word("b", 1, 1, 1, 9) + word("c", 1, 2, 1, 9) + word("d", 2, 1, 1, 9);
+        Checks.feed(x, now);
+        due("another", x.realm(), 0);
+        due("all comes to d behind a, but for what is cut", x.meet(0, 3, 1), 333333 + 666666);
+        due("a third behind b", x.meet(1, 3, 1), 333333);
+        due("aim", x.aim(3, 1), 333333 + 666666);
+        due("began", x.began(), 1);
+        due("best", x.best(-1), 666666);
+    }
+
     // "(All of the whole that is being written, as it stands, by what is left now.)": ahead is the WORD that is written.
     private static void behindWhatIsWritten() {
         FoldedRealm x = Checks.told("folds 3;writes heavy+ahead*small;" + word("a", 0, 1, 0, 9) + word("b", 0, 1, 3, 9) + word("c", 1, 1, 0, 9) + word("d", 1, 1, 2, 9)
@@ -777,6 +791,7 @@ public final class AskingBoundaryTests {
         oneIsSome();
         anyOrderOfWords();
         behindWhatIsWritten();
+        nothingWeighedAhead();
         clashesAndFire();
         allTenClash();
         beganBySeats();
