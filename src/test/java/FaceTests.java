@@ -4,6 +4,7 @@ import java.lang.reflect.Method;
 import java.lang.reflect.Modifier;
 import java.nio.file.Files;
 import java.nio.file.Path;
+import java.util.ArrayList;
 import java.util.Arrays;
 import java.util.List;
 import java.util.Set;
@@ -57,11 +58,53 @@ public final class FaceTests {
         checks.due("some twelve classes", c.getDeclaredClasses().length <= 12, true);
     }
 
+    private static boolean isNumberOrText(Class<?> type) {
+        return type == String.class || (type.isPrimitive() && type != double.class && type != float.class);
+    }
+
+    /** Rule 5: no static state; rules 3 and 11: what an object holds. */
+    private static void fields() {
+        List<Class<?>> all = new ArrayList<>(List.of(FoldedRealm.class));
+        all.addAll(List.of(FoldedRealm.class.getDeclaredClasses()));
+        for (Class<?> c : all) {
+            int held = 0;
+            for (Field f : c.getDeclaredFields()) {
+                if (Modifier.isStatic(f.getModifiers())) {
+                    boolean kept = f.getType().isArray() && f.getType().getComponentType().isEnum();
+                    checks.due("final " + f, Modifier.isFinal(f.getModifiers()), true);
+                    checks.due("a constant " + f, f.isEnumConstant() || kept || isNumberOrText(f.getType()), true);
+                } else {
+                    held++;
+                    checks.due("of an enum " + f, !c.isEnum() || isNumberOrText(f.getType()), true);
+                    checks.due("of one dimension " + f, f.getType().getName().startsWith("[["), false);
+                }
+            }
+            checks.due("some twenty fields " + c, held <= 20, true);
+        }
+    }
+
+    /** Rule 11: methods stay short; by how this file is laid out a member ends where its brace does. */
+    private static void lengths(String text) {
+        String[] lines = text.split("\n");
+        for (int i = 0; i < lines.length; i++) {
+            boolean begins = lines[i].matches(" {4}( {4})?[A-Za-z].*\\).* \\{") && !lines[i].contains(" class ");
+            if (begins) {
+                String end = lines[i].substring(0, lines[i].length() - lines[i].stripLeading().length()) + "}";
+                int last = i;
+                while (last < lines.length && !lines[last].equals(end)) {
+                    last++;
+                }
+                checks.due("some sixty lines from " + (i + 1), last - i < 60, true);
+            }
+        }
+    }
+
     private static void source() throws Exception {
         String text = Files.readString(Path.of("src/main/java/FoldedRealm.java"));
         for (String barred : List.of("->", "::", "catch", "finally", "synchronized", "assert ", "instanceof", "package ", "Exact(", "System.out")) {
             checks.due("no " + barred, text.contains(barred), false);
         }
+        lengths(text);
         for (String line : text.split("\n")) {
             if (line.startsWith("import")) {
                 checks.due(line, Arrays.asList("import java.util.NoSuchElementException;").contains(line), true);
@@ -74,6 +117,7 @@ public final class FaceTests {
 
     public static void main(String[] args) throws Exception {
         face();
+        fields();
         source();
         checks.end();
     }
